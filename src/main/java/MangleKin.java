@@ -739,7 +739,8 @@ public final class MangleKin {
      * nobody, KIN of a to all others together.
      */
     private boolean goesAsTold(Sheet told, int a, int b) {
-        for (int k = 0; k < told.size; k++) {
+        int upTo = told.toldSize();
+        for (int k = 0; k < upTo; k++) {
             if (k > 0) {
                 trial.passTurn();
             }
@@ -936,7 +937,7 @@ public final class MangleKin {
             int in = goingIn();
             keptOne = NOBODY;
             for (int p = 0; p < people; p++) {
-                brought[p] = brings(p);
+                brought[p] = has(in, p) ? brings(p) : 0;
                 faded[p] = fades(p);
                 if (has(in, p)) {
                     keptOne = p;
@@ -1060,6 +1061,15 @@ public final class MangleKin {
 
         void enter(int i, int v) {
             numbers[i] = bits == 8 ? (byte) v : bits == 16 ? (short) v : v;
+        }
+
+        /** How many numbers there are up to the last that doesn't tell any: no TURN behind it matters. */
+        int toldSize() {
+            int upTo = size;
+            while (upTo > 0 && numbers[upTo - 1] == ANY) {
+                upTo--;
+            }
+            return upTo;
         }
 
         /** Whether there are n numbers from one on; asked so that nothing can wrap around. */

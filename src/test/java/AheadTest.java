@@ -60,6 +60,12 @@ public final class AheadTest extends Promises {
         due("19: 7", x.first(7), 1);
         due("19: the boys with 9", x.first(9), 2);
         due("19: 999", x.first(999), NONE);
+        MangleKin two = couple();
+        two.go(3);
+        due("19: two people, 41 with turn 103", two.first(41), 100);
+        MangleKin soon = couple();
+        soon.go(2);
+        due("19: 101 on", soon.first(41), NONE);
         beyond("19: 1000", x.first(1000));
         beyond("19: -1", x.first(-1));
         due("19: one alone", with(0).first(0), NONE);
@@ -80,6 +86,12 @@ public final class AheadTest extends Promises {
         due("20: nobody", new MangleKin().one(999), 0);
         due("20: one", with(0).one(999), 0);
         due("20: two strangers", with(0, 0).one(1), NONE);
+        MangleKin late = couple();
+        late.go(3);
+        due("20: 41 with turn 103", late.one(41), 100);
+        MangleKin soon = couple();
+        soon.go(2);
+        due("20: 101 on", soon.one(41), NONE);
         beyond("20: for 0", x.one(0));
         beyond("20: for 1000", x.one(1000));
     }

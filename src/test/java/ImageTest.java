@@ -114,6 +114,8 @@ public final class ImageTest extends Promises {
         x.go(8);
         due("45: turn", x.count(0), 8);
         due("45: clans for 1", x.count(2), 3);
+        x.make(0, 1, 1);
+        due("45: clans for 1, kin 1", x.count(2), 2);
         beyond("45: count(8)", x.count(8));
         beyond("45: count(-1)", x.count(-1));
         due("45: one alone", with(0).count(4), 0);

@@ -212,6 +212,9 @@ public final class PeopleTest extends Promises {
         due("10: seen from the other", x.kin(1, 0), 0);
         due("10: kin of others", x.kin(1, 2), 7);
         due("10: again", x.iron(0), 0);
+        x.make(0, 2, 4);
+        due("10: the last one", x.iron(2), 11);
+        due("10: its kin to the first", x.kin(0, 2), 0);
         beyond("10: nobody", x.iron(3));
         beyond("10: nobody below", x.iron(-1));
     }

@@ -6,6 +6,7 @@ public final class TextTest extends Promises {
         t.wipe();
         t.whole();
         t.blanksAndDigits();
+        t.noMoreThanTheTape();
         t.faults();
         t.faultsOfNumbers();
         t.ninth();
@@ -83,6 +84,22 @@ public final class TextTest extends Promises {
         due("34: damp is left", x.now(4), 8);
     }
 
+    /** What stood on the tape behind its end isn't read again. */
+    private void noMoreThanTheTape() {
+        MangleKin x = new MangleKin();
+        Due.feedAll(x, "boys 55");
+        x.wipe();
+        due("34: boy", tell(x, "boy"), 1);
+        Due.feedAll(x, "damp 55");
+        x.wipe();
+        due("34: damp 5", tell(x, "damp 5"), 1);
+        due("34: damp is 5", x.now(4), 5);
+        due("34: a word up to byte 120", tell(x, " ".repeat(117) + "boy"), 1);
+        due("34: a number up to byte 120", tell(x, "damp" + "0".repeat(115) + "8"), 1);
+        due("34: damp is 8", x.now(4), 8);
+        due("34: a sign as byte 120", tell(x, "damp" + "0".repeat(115) + ";"), -121);
+    }
+
     private void fault(String text, int at) {
         due("34: " + text, tell(with(0, 0), text), -1 - at);
     }
@@ -96,6 +113,10 @@ public final class TextTest extends Promises {
         fault("boy;;lord", 4);
         fault("boys", 0);
         fault("bo", 0);
+        fault("toy", 0);
+        fault("boyz", 0);
+        fault("hist 0 1", 0);
+        fault("boz", 0);
         fault("boy lord", 4);
         fault("worth 5", 0);
         fault("kin 0 1", 0);

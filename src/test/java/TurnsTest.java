@@ -164,6 +164,10 @@ public final class TurnsTest extends Promises {
         x.washes(20);
         due("29: 20 washes go", x.now(0), 99980);
         due("29: 20 more don't", x.washes(20), STATE);
+        x.image();
+        x.washes(19);
+        due("29: the last turn", x.now(0), 99999);
+        x.undo();
         x.go(19);
         due("11: the last turn", x.now(0), 99999);
         due("11: no more", x.go(1), STATE);

@@ -43,6 +43,8 @@ public final class WentTest extends Promises {
         MangleKin x = with(0, 0);
         fill(x, 1, 8, 255, 255);
         due("26: of 8 bits 255 is -1: any", x.fits(1, 0, 0, 1), 256);
+        fill(x, 1, 8, 0, 7);
+        due("27: all of two", x.went(1, 0, 0, 1), 3);
         fill(x, 1, 16, 255, 255);
         due("26: of 16 it is 255", x.fits(1, 0, 0, 1), 0);
         fill(x, 1, 16, -2);
