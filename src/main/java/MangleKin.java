@@ -388,7 +388,7 @@ public final class MangleKin {
             }
         }
         // Those that aren't there don't count: each set stands for all that differ in them alone.
-        return fitting << MOST_PEOPLE - house.people;
+        return fitting << (MOST_PEOPLE - house.people);
     }
 
     public int went(int s, int i, int a, int b) {
@@ -465,7 +465,7 @@ public final class MangleKin {
             return finding(FULL);
         }
         for (int k = n - 1; k >= 0; k--) {
-            tape.take(bytes >>> 8 * k & 255);
+            tape.take((bytes >>> (8 * k)) & 255);
         }
         return tape.length;
     }
@@ -489,7 +489,7 @@ public final class MangleKin {
     // ---- spots, sheets
 
     public int hold(int spot, int person) {
-        if (!within(spot, 0, SPOTS - 1) || person != NOBODY && !isThere(person)) {
+        if (!within(spot, 0, SPOTS - 1) || (person != NOBODY && !isThere(person))) {
             return finding(BEYOND);
         }
         house.spots[spot] = person;
@@ -508,7 +508,7 @@ public final class MangleKin {
     }
 
     public int sheet(int s, int bits, int n) {
-        if (!isSheet(s) || bits != 0 && bits != 8 && bits != 16 && bits != 32) {
+        if (!isSheet(s) || (bits != 0 && bits != 8 && bits != 16 && bits != 32)) {
             return finding(BEYOND);
         }
         if (n < 0) {
@@ -924,7 +924,7 @@ public final class MangleKin {
 
         int goingIn() {
             int in = sets[place()] & everyone();
-            return keptOne == NOBODY ? in : in | 1 << keptOne;
+            return keptOne == NOBODY ? in : in | (1 << keptOne);
         }
 
         void passTurns(int n) {
@@ -960,7 +960,7 @@ public final class MangleKin {
         }
 
         static boolean has(int set, int one) {
-            return (set >> one & 1) == 1;
+            return ((set >> one) & 1) == 1;
         }
 
         /** A set with all who are NEAR one of it for v. */
