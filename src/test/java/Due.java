@@ -24,6 +24,8 @@ final class Due {
         due(what, holds ? 1 : 0, 1);
     }
 
+    int asked() { return asked; }
+
     /** Ends the test, with exit code 1 if an answer was wrong. */
     void end(String name) {
         System.out.println(name + ": " + asked + " asked, " + wrong + " wrong");

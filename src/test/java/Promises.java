@@ -7,12 +7,21 @@ abstract class Promises {
     static final int STATE = Due.STATE;
     static final int MISSING = Due.MISSING;
     static final int SIZE = Due.SIZE;
+    static final int LEAST = Integer.MIN_VALUE;
+    static final int MOST = Integer.MAX_VALUE;
 
     private final Due due = new Due();
 
-    final void due(String call, long got, long want) { due.due(call, got, want); }
+    /** What is told ahead of each call that is asked. */
+    String told() { return ""; }
 
-    final void beyond(String call, long got) { due.due(call, got, BEYOND); }
+    final void due(String call, long got, long want) { due.due(told() + call, got, want); }
+
+    final void beyond(String call, long got) { due(call, got, BEYOND); }
+
+    final void so(String what, boolean holds) { due(what, holds ? 1 : 0, 1); }
+
+    final int asked() { return due.asked(); }
 
     final void end() { due.end(getClass().getSimpleName()); }
 
