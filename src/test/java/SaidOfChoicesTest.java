@@ -282,6 +282,42 @@ public final class SaidOfChoicesTest extends Sentences {
         due("a boy's 3 to two, less 2 to one", x.kindFor(0, 1), 2);
     }
 
+    /** One of a worth, who goes in with another one, if there is one, and is kin by 5 to a lord who doesn't. */
+    private static MangleKin inAndOut(int worth, int other, int damp) {
+        MangleKin x = with(0, 1, 1);
+        x.damp(damp);
+        x.change(0, 1, worth);
+        x.change(1, 1, other);
+        x.list(0, 3);
+        x.make(0, 2, 5);
+        return x;
+    }
+
+    @Says(promise = 23, value = KIND_FOR)
+    void kindForAnyOfTheKinds() {
+        due("a person: 4, less 1", inAndOut(4, 8, 0).kindFor(0, 1), 0);
+        due("a lord: 0, less 0", inAndOut(0, 0, 0).kindFor(0, 1), 1);
+        due("a boy: 6, less 2", inAndOut(4, 99, 0).kindFor(0, 1), 2);
+        MangleKin widow = inAndOut(0, 2, 0);
+        widow.person(1);
+        widow.change(3, 1, 2);
+        widow.list(0, 11);
+        due("a widow: twice 1, less 1", widow.kindFor(0, 1), 3);
+        MangleKin sunday = inAndOut(4, 99, 0);
+        sunday.go(6);
+        due("a sunday at TURN 6: 12", sunday.kindFor(0, 1), 4);
+        due("a starched: 4, less 0", inAndOut(4, 8, 9).kindFor(0, 1), 5);
+        MangleKin heir = with(0, 1, 1, 1);
+        heir.damp(0);
+        heir.change(0, 1, 0);
+        heir.list(0, 15);
+        for (int p = 1; p < 4; p++) {
+            heir.change(p, 1, 99);
+            heir.make(0, p, 10);
+        }
+        due("an heir: thrice 3", heir.kindFor(0, 1), 6);
+    }
+
     @Says(promise = 23, value = "BEYOND.")
     void kindForBeyond() {
         MangleKin x = lords();

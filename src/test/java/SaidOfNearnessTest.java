@@ -234,6 +234,19 @@ public final class SaidOfNearnessTest extends Sentences {
         due("nothing changes", y.now(0) + y.now(1), 0);
     }
 
+    @Says(promise = 19, value = "Behind how many TURNS (0 to 100, the fewest) KIN of any two is v (0 to 999) or "
+        + "more.")
+    void firstOfTwoNotOfAllTogether() {
+        MangleKin x = row();
+        for (int p = 1; p < 8; p++) {
+            x.make(p - 1, p, 5);
+        }
+        due("35 together, 5 each: v 5", x.first(5), 0);
+        due("v 6", x.first(6), NONE);
+        x.list(2, 192);
+        due("v 6: 6 and 7 go in behind two", x.first(6), 3);
+    }
+
     @Says(promise = 19, value = "BEYOND.")
     void firstBeyond() {
         MangleKin x = three();
